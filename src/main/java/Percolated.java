@@ -908,9 +908,8 @@ public final class Percolated {
         return greater;
     }
 
-    /** What the kinds do; CANON, PUMP and SEXTON stand as the HOUSE that they come under. */
+    /** What the kinds do; a HOUSE is the default, as CANON, PUMP and SEXTON stand under it. */
     private static final class Kinds {
-        static final int HOUSE = 0;
         static final int CANON = 1;
         static final int MISS = 2;
         static final int PUMP = 3;

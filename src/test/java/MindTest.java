@@ -155,6 +155,7 @@ public final class MindTest {
 
     private static void stop() {
         Percolated x = Due.told("n10;n10;n10;x02;v003;v110;");
+        x.least(999, 60);
         D.due("19: the worst", x.stop(1), 1);
         x.blocks(1);
         D.due("19: the least of two alike", x.stop(1), 0);
@@ -167,6 +168,9 @@ public final class MindTest {
     }
 
     private static void join() {
+        Percolated x = Due.told("n10;n19;v005;");
+        x.least(999, 60);
+        D.due("20: from now, not from what was thought", x.join(1), 1);
         D.due("20: by a CANON that adds", Due.told("n10;n19;v005;").join(1), 1);
         D.due("20: the first of two", Due.told("n10;n19;n19;v005;").join(1), 1);
         D.due("20: by the better", Due.told("n10;n18;n19;x12;v005;x09;").join(1), 1);

@@ -84,6 +84,9 @@ public final class OddsTest {
         x.pours(2, 2);
         D.due("30: lowest terms, above", x.mean(0), 3);
         D.due("30: lowest terms, below", x.mean(1), 1);
+        Percolated one = Due.told("n00;n00;v001;");
+        D.due("30: one over two, above", one.mean(0), 1);
+        D.due("30: one over two, below", one.mean(1), 2);
         Percolated empty = Due.told("n00;n00;");
         D.due("30: nothing", empty.mean(0), 0);
         D.due("30: nothing over 1", empty.mean(1), 1);

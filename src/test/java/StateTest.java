@@ -150,8 +150,10 @@ public final class StateTest {
         Percolated x = Due.told("n00;");
         D.due("8: nothing", x.pours(0, 0), 0);
         D.due("8: not WET by nothing", x.houseOf(0, 5), 0);
-        D.due("8: some", x.pours(0, 60), 60);
-        D.due("8: WET", x.houseOf(0, 5), 1);
+        D.due("8: one", x.pours(0, 1), 1);
+        D.due("8: WET by one", x.houseOf(0, 5), 1);
+        D.due("8: some more", x.pours(0, 59), 60);
+        D.due("8: WET still", x.houseOf(0, 5), 1);
         D.due("8: 99 held", x.pours(0, 60), 99);
         D.due("8: v 99", x.pours(0, 99), 99);
         D.due("8: v -1", x.pours(0, -1), -4);

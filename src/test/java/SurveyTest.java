@@ -24,6 +24,8 @@ public final class SurveyTest {
         D.due("28: TWINS", x.fullest(5), 1);
         x.joins(2, 3);
         D.due("28: PUMPS", x.fullest(1), 8);
+        x.joins(0, 4);
+        D.due("28: PUMPS, HOUSE 0 by a NEXT not there", x.fullest(1), 9);
         x.joins(0, 2);
         D.due("28: DEEP still", x.fullest(3), 3);
         Percolated dry = Due.told("n00;n00;n00;");
@@ -32,7 +34,10 @@ public final class SurveyTest {
         D.due("28: DEEP of one each", dry.fullest(3), 1);
         D.due("28: what -1", x.fullest(-1), -2);
         D.due("28: what 6", x.fullest(6), -2);
-        D.due("28: no HOUSES", new Percolated().fullest(0), -9);
+        int[] none = {-9, 0, 0, 0, 60, 0};
+        for (int what = 0; what <= 5; what++) {
+            D.due("28: no HOUSES", new Percolated().fullest(what), none[what]);
+        }
     }
 
     private static void still() {
@@ -41,6 +46,9 @@ public final class SurveyTest {
         // One an hour for 50 hours, then still for ten.
         D.due("28: STILL at the end", Due.told("n31;v050;").fullest(4), 10);
         D.due("28: never STILL", Due.told("n31;v099;").fullest(4), 0);
+        Percolated again = Due.told("n10;v005;");
+        again.then(60, 0);
+        D.due("28: STILL from now, not from what was thought", again.fullest(4), 59);
         // One an hour comes to a SEXTON that keeps nine: the tenth goes on, and each behind it.
         D.due("28: STILL at the beginning", Due.told("n31;n49;x01;v060;").fullest(4), 9);
     }
