@@ -1,5 +1,8 @@
+import java.util.TreeSet;
+
 /** Counts the answers that are not as due and ends a test with exit code 1 if there was one. */
 final class Due {
+    private final TreeSet<Integer> edgesOf = new TreeSet<>();
     private int wrong;
     private int asked;
 
@@ -9,6 +12,25 @@ final class Due {
             wrong++;
             System.out.println("  " + what + ": answered " + got + ", due is " + want);
         }
+    }
+
+    /** A case at an edge, told with its promise's number. */
+    void edge(int promise, String edge, long got, long want) {
+        edgesOf.add(promise);
+        due("promise " + promise + ", " + edge, got, want);
+    }
+
+    void same(int promise, String edge, String got, String want) {
+        edge(promise, edge, got.equals(want) ? 1 : 0, 1);
+        if (!got.equals(want)) {
+            System.out.println("    " + got + "\n    is not\n    " + want);
+        }
+    }
+
+    /** Ends a test of edges, which must have asked just these promises. */
+    void endOfEdges(String test, Integer... promises) {
+        due(test + ": edges of the promises " + edgesOf, edgesOf.equals(new TreeSet<>(java.util.List.of(promises))) ? 1 : 0, 1);
+        end(test);
     }
 
     void end(String test) {
@@ -24,11 +46,15 @@ final class Due {
         }
     }
 
+    static int tell(Percolated x, String letters) {
+        feed(x, letters);
+        return x.parish();
+    }
+
     /** A parish told in letters; a fault in them is a fault of the test. */
     static Percolated told(String letters) {
         Percolated x = new Percolated();
-        feed(x, letters);
-        if (x.parish() < 1) {
+        if (tell(x, letters) < 1) {
             throw new IllegalStateException("the test told a parish with a fault: " + letters);
         }
         return x;
