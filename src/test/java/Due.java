@@ -1,3 +1,4 @@
+import java.util.List;
 import java.util.TreeSet;
 
 /** Counts the answers that are not as due and ends a test with exit code 1 if there was one. */
@@ -29,7 +30,8 @@ final class Due {
 
     /** Ends a test of edges, which must have asked just these promises. */
     void endOfEdges(String test, Integer... promises) {
-        due(test + ": edges of the promises " + edgesOf, edgesOf.equals(new TreeSet<>(java.util.List.of(promises))) ? 1 : 0, 1);
+        boolean all = edgesOf.equals(new TreeSet<>(List.of(promises)));
+        due(test + ": edges of the promises " + edgesOf, all ? 1 : 0, 1);
         end(test);
     }
 
